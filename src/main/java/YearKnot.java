@@ -126,7 +126,7 @@ public final class YearKnot {
     }
 
     public int pull() {
-        layForm();
+        pile.layForm(net, now.line, knot);
         if (knot.isLike(now.line)) {
             return NONE;
         }
@@ -158,7 +158,7 @@ public final class YearKnot {
     }
 
     public int form(int place) {
-        layForm();
+        pile.layForm(net, now.line, knot);
         return knot.tieAt(place);
     }
 
@@ -202,7 +202,7 @@ public final class YearKnot {
     public int shown() {
         for (int f = 0; f < net.folks; f++) {
             for (int g = f; g < net.folks; g++) {
-                if (net.stops(f, g) && !comesOutOf(1 << f | 1 << g)) {
+                if ((net.stops[f] >> g & 1) != 0 && !comesOutOf(1 << f | 1 << g)) {
                     return f * MOST_FOLK + g;
                 }
             }
@@ -271,9 +271,8 @@ public final class YearKnot {
     }
 
     public int ring() {
-        layForm();
-        pile.lay(net, now.other);
-        pile.writeForm(net, second);
+        pile.layForm(net, now.line, knot);
+        pile.layForm(net, now.other, second);
         if (knot.size > MOST_IN_RING || second.size > MOST_IN_RING) {
             return NONE;
         }
@@ -342,7 +341,7 @@ public final class YearKnot {
             case 5:
                 return now.line.size;
             case 6:
-                layForm();
+                pile.layForm(net, now.line, knot);
                 return knot.size;
             case 7:
                 return now.year.size;
@@ -359,11 +358,6 @@ public final class YearKnot {
         }
     }
 
-    private void layForm() {
-        pile.lay(net, now.line);
-        pile.writeForm(net, knot);
-    }
-
     private boolean comesOutOf(int folkBits) {
         pile.clear();
         for (int i = 0; i < now.line.size; i++) {
@@ -378,8 +372,8 @@ public final class YearKnot {
     private int mostOutFrom(int start) {
         int most = 0;
         pile.clear();
-        for (int i = start; i < now.line.size; i++) {
-            pile.pushTie(net, now.line.tieAt(i));
+        for (int i = Math.max(start, 0); i < now.line.size; i++) {
+            pile.pushTie(net, now.line.ties[i]);
             if (pile.size == 0) {
                 most = i - start + 1;
             }
@@ -401,7 +395,7 @@ public final class YearKnot {
         return (own + others >= needs ? gets : 0) - loses * own;
     }
 
-    /** The TAPE's signs, and the token at hand while it is read. */
+    /** The TAPE: its signs, and while it is read its tokens with the one at hand. */
     private static final class Tape {
         static final int ROOM = 1000;
         static final int FOLK = 0;
@@ -436,16 +430,18 @@ public final class YearKnot {
 
         private final byte[] signs;
         int size;
-        private int next;
-        private int start;
+        private final int[] tokens;
+        private final int[] starts;
+        private final long[] values;
+        private int count;
+        private int here;
         private int fault;
-        int token;
-        int number;
-        long name;
 
         Tape() {
             signs = new byte[ROOM];
-            token = END;
+            tokens = new int[ROOM + 1];
+            starts = new int[ROOM + 1];
+            values = new long[ROOM + 1];
         }
 
         void addBytes(long eight) {
@@ -459,24 +455,58 @@ public final class YearKnot {
             }
         }
 
+        /** Lays the tokens out; the END stands behind the last of them. */
         void begin() {
-            next = 0;
+            count = 0;
+            here = 0;
             fault = 0;
-            step();
+            int place = 0;
+            while (place < size) {
+                int sign = signs[place];
+                int end = place + 1;
+                if (isLetter(sign)) {
+                    end = readWord(place);
+                } else if (isDigit(sign)) {
+                    end = readNumber(place);
+                } else if (sign != 10 && sign != 32) {
+                    lay(SIGNS.indexOf((char) sign) >= 0 ? sign : NO_TOKEN, place, 0);
+                }
+                place = end > place ? end : place + 1;
+            }
+            lay(END, size, 0);
         }
 
+        /** What is read is gone: the answer is 0, or the FAULT. */
         int finish(boolean good) {
             size = 0;
             return good ? 0 : fault;
         }
 
+        int token() {
+            return here < count ? tokens[here] : END;
+        }
+
+        int number() {
+            return (int) name();
+        }
+
+        long name() {
+            return here < count ? values[here] : 0;
+        }
+
+        void step() {
+            if (here + 1 < count) {
+                here++;
+            }
+        }
+
         boolean wrong(int kind) {
-            fault = kind + 16 * start;
+            fault = kind + 16 * (here < count ? starts[here] : size);
             return false;
         }
 
         boolean expect(int wanted) {
-            if (token != wanted) {
+            if (token() != wanted) {
                 return wrong(1);
             }
             step();
@@ -485,72 +515,61 @@ public final class YearKnot {
 
         // The names of the facts are no words of the language's own: FOLK may bear them.
         boolean isName() {
-            return token == NAME || isFact();
+            return token() == NAME || isFact();
         }
 
         boolean isFact() {
-            return token >= PLACE && token <= BELOW;
+            return token() >= PLACE && token() <= BELOW;
         }
 
-        void step() {
-            while (next < size && (signAt(next) == 10 || signAt(next) == 32)) {
-                next++;
-            }
-            start = next;
-            int sign = signAt(next);
-            if (next >= size) {
-                token = END;
-            } else if (isLetter(sign)) {
-                readWord();
-            } else if (isDigit(sign)) {
-                readNumber();
-            } else {
-                next++;
-                token = SIGNS.indexOf((char) sign) >= 0 ? sign : NO_TOKEN;
+        private void lay(int token, int start, long value) {
+            if (count <= ROOM) {
+                tokens[count] = token;
+                starts[count] = start;
+                values[count] = value;
+                count++;
             }
         }
 
-        private void readWord() {
-            name = 0;
-            while (next < size && isLetter(signAt(next))) {
-                name = name * 32 + (signAt(next) - 'a' + 1);
-                next++;
+        private int readWord(int start) {
+            int end = start;
+            long letters = 0;
+            while (end < size && isLetter(signs[end])) {
+                letters = letters * 32 + (signs[end] - 'a' + 1);
+                end++;
             }
-            token = next - start > LONGEST_WORD ? NO_TOKEN : wordFrom(next - start);
+            lay(end - start > LONGEST_WORD ? NO_TOKEN : wordAt(start, end - start), start, letters);
+            return end;
         }
 
-        private void readNumber() {
-            number = 0;
-            while (next < size && isDigit(signAt(next))) {
-                number = number * 10 + (signAt(next) - '0');
-                next++;
+        private int readNumber(int start) {
+            int end = start;
+            long told = 0;
+            while (end < size && isDigit(signs[end])) {
+                told = told * 10 + (signs[end] - '0');
+                end++;
             }
-            token = next - start > LONGEST_NUMBER ? NO_TOKEN : NUMBER;
+            lay(end - start > LONGEST_NUMBER ? NO_TOKEN : NUMBER, start, told);
+            return end;
         }
 
-        private int wordFrom(int length) {
-            if (length <= WORD_WIDTH) {
-                for (int word = FOLK; word <= BELOW; word++) {
-                    if (isWord(word, length)) {
-                        return word;
-                    }
+        private int wordAt(int start, int length) {
+            for (int word = FOLK; word <= BELOW && length <= WORD_WIDTH; word++) {
+                if (isWord(word, start, length)) {
+                    return word;
                 }
             }
             return NAME;
         }
 
-        private boolean isWord(int word, int length) {
+        private boolean isWord(int word, int start, int length) {
             for (int i = 0; i < WORD_WIDTH; i++) {
-                int sign = i < length ? signAt(start + i) : ' ';
+                int sign = i < length && start + i < size ? signs[start + i] : ' ';
                 if (WORDS.charAt(word * WORD_WIDTH + i) != sign) {
                     return false;
                 }
             }
             return true;
-        }
-
-        private int signAt(int place) {
-            return place >= 0 && place < size ? signs[place] : 0;
         }
 
         private static boolean isLetter(int sign) {
@@ -598,7 +617,7 @@ public final class YearKnot {
         boolean readLaw(Tape tape) {
             clear();
             for (int n = 0; n <= Tape.ROOM; n++) {
-                if (!partIsDue && brackets == 0 && tape.token == ';') {
+                if (!partIsDue && brackets == 0 && tape.token() == ';') {
                     release(1);
                     return true;
                 }
@@ -612,8 +631,8 @@ public final class YearKnot {
         }
 
         private boolean readPart(Tape tape) {
-            boolean opens = tape.token == Tape.NOT || tape.token == '(';
-            boolean isNumber = tape.token == Tape.NUMBER;
+            boolean opens = tape.token() == Tape.NOT || tape.token() == '(';
+            boolean isNumber = tape.token() == Tape.NUMBER;
             if (!opens && !isNumber && !tape.isFact()) {
                 return tape.wrong(1);
             }
@@ -621,18 +640,18 @@ public final class YearKnot {
                 return tape.wrong(5);
             }
             if (opens) {
-                await(tape.token);
+                await(tape.token());
                 within++;
-                brackets += tape.token == '(' ? 1 : 0;
+                brackets += tape.token() == '(' ? 1 : 0;
             } else {
-                put(isNumber ? tape.number : -tape.token);
+                put(isNumber ? tape.number() : -tape.token());
                 endPart();
             }
             return true;
         }
 
         private boolean readJoint(Tape tape) {
-            if (tape.token == ')' && brackets > 0) {
+            if (tape.token() == ')' && brackets > 0) {
                 release(1);
                 waits--;
                 within--;
@@ -640,7 +659,7 @@ public final class YearKnot {
                 endPart();
                 return true;
             }
-            int rank = rankOf(tape.token);
+            int rank = rankOf(tape.token());
             if (rank == 0) {
                 return tape.wrong(1);
             }
@@ -649,7 +668,7 @@ public final class YearKnot {
             if (compares && rankOf(last()) == 2) {
                 return tape.wrong(1);
             }
-            await(tape.token);
+            await(tape.token());
             partIsDue = true;
             return true;
         }
@@ -769,15 +788,20 @@ public final class YearKnot {
 
     /** FOLK, who is kin, how long the line and the rope are, and what a tie takes. */
     private static final class Net {
+        private static final int SORTS_OF_TIES = 2 * MOST_FOLK;
         private static final int MOST_TAKEN = 99;
         private static final int MOST_ROPE = 999;
         private static final int FIRST_ROPE = 200;
-        // Of each KIND: by how many its ties count for 0; 0: by none.
+        // Of each KIND.
         private static final int[] ROUNDS = {0, 2, 3, 4};
 
         private final long[] names;
         final int[] kinds;
         final int[] kin;
+        // Of each FOLK, as bits: whose ties its own can't change places with.
+        final int[] stops;
+        // Of each FOLK: by how many its ties count for 0; 0: by none.
+        final int[] rounds;
         int folks;
         int pairs;
         int line;
@@ -785,21 +809,23 @@ public final class YearKnot {
         private boolean lineTold;
         private boolean ropeTold;
         private final Law law;
-        // What each tie takes at each place, NONE until it is asked for.
+        // What each tie takes, by places.
         private final int[] taken;
 
         Net() {
             names = new long[MOST_FOLK];
             kinds = new int[MOST_FOLK];
             kin = new int[MOST_FOLK];
+            stops = new int[MOST_FOLK];
+            rounds = new int[MOST_FOLK];
             law = new Law();
-            taken = new int[MOST_TIES * 2 * MOST_FOLK];
+            taken = new int[MOST_TIES * SORTS_OF_TIES];
             clear();
         }
 
         private void clear() {
             Arrays.fill(kin, 0);
-            Arrays.fill(taken, NONE);
+            Arrays.fill(stops, 0);
             folks = 0;
             pairs = 0;
             line = MOST_TIES;
@@ -813,22 +839,8 @@ public final class YearKnot {
             return folk >= 0 && folk < folks;
         }
 
-        /** Whether a tie of one can't change places with a tie of the other. */
-        boolean stops(int folk, int other) {
-            return (stopsOf(folk) >> other & 1) != 0;
-        }
-
-        int stopsOf(int folk) {
-            return folk >= 0 && folk < MOST_FOLK ? kin[folk] | 1 << folk : 0;
-        }
-
-        int roundOf(int folk) {
-            int kind = folk >= 0 && folk < MOST_FOLK ? kinds[folk] : 0;
-            return kind >= 0 && kind < ROUNDS.length ? ROUNDS[kind] : 0;
-        }
-
         int rounded(int folk, int total) {
-            int round = roundOf(folk);
+            int round = hasFolk(folk) ? rounds[folk] : 0;
             return round > 0 ? Math.floorMod(total, round) : total;
         }
 
@@ -852,45 +864,43 @@ public final class YearKnot {
         int usedBy(Row row) {
             int used = 0;
             for (int i = 0; i < row.size; i++) {
-                used += takenBy(i, row.tieAt(i));
+                used += takenBy(i, row.ties[i]);
             }
             return used;
         }
 
         private int takenBy(int place, int one) {
-            int slot = place * 2 * MOST_FOLK + one;
-            if (place < 0 || one < 0 || slot >= taken.length) {
-                return 0;
-            }
-            if (taken[slot] == NONE) {
-                taken[slot] = Math.max(0, Math.min(MOST_TAKEN, lawFor(place, one)));
-            }
-            return taken[slot];
+            int slot = place * SORTS_OF_TIES + one;
+            return slot >= 0 && slot < taken.length ? taken[slot] : 0;
         }
 
-        private int lawFor(int place, int one) {
-            int folk = Row.folkOf(one);
-            if (!hasFolk(folk)) {
-                return 0;
+        private void layTaken() {
+            for (int place = 0; place < line; place++) {
+                for (int one = 0; one < 2 * folks; one++) {
+                    int folk = Row.folkOf(one);
+                    int kind = kinds[folk];
+                    int worth = 1 + kind;
+                    if (law.isTold()) {
+                        worth = law.worth(place, kind, Integer.bitCount(kin[folk]), one & 1);
+                    }
+                    taken[place * SORTS_OF_TIES + one] = Math.max(0, Math.min(MOST_TAKEN, worth));
+                }
             }
-            if (!law.isTold()) {
-                return 1 + kinds[folk];
-            }
-            return law.worth(place, kinds[folk], Integer.bitCount(kin[folk]), one & 1);
         }
 
         boolean readNet(Tape tape) {
             clear();
-            for (int n = 0; n <= Tape.ROOM && tape.token != Tape.END; n++) {
+            for (int n = 0; n <= Tape.ROOM && tape.token() != Tape.END; n++) {
                 if (!readClause(tape)) {
                     return false;
                 }
             }
+            layTaken();
             return true;
         }
 
         private boolean readClause(Tape tape) {
-            switch (tape.token) {
+            switch (tape.token()) {
                 case Tape.FOLK:
                     return readFolk(tape);
                 case Tape.KIN:
@@ -914,16 +924,18 @@ public final class YearKnot {
             if (!tape.isName()) {
                 return tape.wrong(1);
             }
-            if (folkNamed(tape.name) != NONE) {
+            if (folkNamed(tape.name()) != NONE) {
                 return tape.wrong(3);
             }
-            names[folks] = tape.name;
+            names[folks] = tape.name();
             tape.step();
-            int kind = tape.token - Tape.BEND;
+            int kind = tape.token() - Tape.BEND;
             if (kind < 0 || kind >= ROUNDS.length) {
                 return tape.wrong(1);
             }
             kinds[folks] = kind;
+            rounds[folks] = ROUNDS[kind];
+            stops[folks] = 1 << folks;
             folks++;
             tape.step();
             return tape.expect(';');
@@ -940,11 +952,13 @@ public final class YearKnot {
             if (two == NONE) {
                 return false;
             }
-            if (stops(one, two)) {
+            if ((stops[one] >> two & 1) != 0) {
                 return tape.wrong(3);
             }
             kin[one] |= 1 << two;
             kin[two] |= 1 << one;
+            stops[one] |= 1 << two;
+            stops[two] |= 1 << one;
             pairs++;
             tape.step();
             return tape.expect(';');
@@ -983,7 +997,7 @@ public final class YearKnot {
         /** A YEAR (with what is done by hand) or OTHER (without). */
         boolean readLines(Tape tape, Row row, int most, boolean byHand) {
             row.clear();
-            for (int n = 0; n <= most && tape.token != Tape.END; n++) {
+            for (int n = 0; n <= most && tape.token() != Tape.END; n++) {
                 if (!readYearLine(tape, row, most, byHand)) {
                     return false;
                 }
@@ -992,7 +1006,7 @@ public final class YearKnot {
         }
 
         private boolean readYearLine(Tape tape, Row row, int most, boolean byHand) {
-            int first = tape.token;
+            int first = tape.token();
             boolean isHand = byHand && (first == Tape.CUT || first == Tape.PULL);
             int folk = isHand ? NONE : nameHere(tape);
             if (!isHand && folk == NONE) {
@@ -1017,8 +1031,8 @@ public final class YearKnot {
         }
 
         private static int readSide(Tape tape, int folk) {
-            boolean over = tape.token == Tape.OVER;
-            if (!over && tape.token != Tape.UNDER) {
+            boolean over = tape.token() == Tape.OVER;
+            if (!over && tape.token() != Tape.UNDER) {
                 tape.wrong(1);
                 return NONE;
             }
@@ -1027,15 +1041,15 @@ public final class YearKnot {
         }
 
         private static int readNumber(Tape tape, int least, int most) {
-            if (tape.token != Tape.NUMBER) {
+            if (tape.token() != Tape.NUMBER) {
                 tape.wrong(1);
                 return NONE;
             }
-            if (tape.number < least || tape.number > most) {
+            if (tape.number() < least || tape.number() > most) {
                 tape.wrong(4);
                 return NONE;
             }
-            int told = tape.number;
+            int told = tape.number();
             tape.step();
             return told;
         }
@@ -1045,7 +1059,7 @@ public final class YearKnot {
                 tape.wrong(1);
                 return NONE;
             }
-            int folk = folkNamed(tape.name);
+            int folk = folkNamed(tape.name());
             if (folk == NONE) {
                 tape.wrong(2);
             }
@@ -1139,7 +1153,7 @@ public final class YearKnot {
      */
     private static final class Pile {
         final int[] folk;
-        private final int[] counts;
+        final int[] counts;
         private final boolean[] written;
         int size;
 
@@ -1165,16 +1179,23 @@ public final class YearKnot {
             pushRow(net, row);
         }
 
+        /** Lays a row out and writes its FORM. */
+        void layForm(Net net, Row row, Row form) {
+            clear();
+            pushRow(net, row);
+            writeForm(net, form);
+        }
+
         void pushRow(Net net, Row row) {
             for (int i = 0; i < row.size; i++) {
-                pushTie(net, row.ties[i]);
+                push(net, Row.folkOf(row.ties[i]), Row.countOf(row.ties[i]));
             }
         }
 
         /** What undoes a row: its ties from the last to the first, each the other way. */
         void pushAgainst(Net net, Row row) {
             for (int i = row.size - 1; i >= 0; i--) {
-                pushTie(net, row.tieAt(i) ^ 1);
+                push(net, Row.folkOf(row.ties[i]), -Row.countOf(row.ties[i]));
             }
         }
 
@@ -1182,24 +1203,27 @@ public final class YearKnot {
             push(net, Row.folkOf(one), Row.countOf(one));
         }
 
-        void pushBundle(Net net, Pile from, int place) {
-            if (place >= 0 && place < from.size) {
-                push(net, from.folk[place], from.counts[place]);
-            }
-        }
-
-        private void push(Net net, int whose, int count) {
-            int place = size - 1;
-            while (place >= 0 && !net.stops(folk[place], whose)) {
-                place--;
-            }
-            if (place < 0 || folk[place] != whose) {
-                append(whose, net.rounded(whose, count));
+        void push(Net net, int whose, int count) {
+            if (!net.hasFolk(whose)) {
                 return;
             }
-            counts[place] = net.rounded(whose, counts[place] + count);
-            if (counts[place] == 0) {
+            int stops = net.stops[whose];
+            int place = size - 1;
+            while (place >= 0 && (stops >> folk[place] & 1) == 0) {
+                place--;
+            }
+            boolean joins = place >= 0 && folk[place] == whose;
+            int total = joins ? counts[place] + count : count;
+            int round = net.rounds[whose];
+            if (round > 0) {
+                total = Math.floorMod(total, round);
+            }
+            if (!joins) {
+                append(whose, total);
+            } else if (total == 0) {
                 takeOut(place);
+            } else {
+                counts[place] = total;
             }
         }
 
@@ -1244,24 +1268,21 @@ public final class YearKnot {
             return NONE;
         }
 
-        /** The fewest ties of a bundle: over ones above 0, under ones below 0. */
-        private int tiesIn(Net net, int place) {
-            int round = net.roundOf(folk[place]);
+        /** The fewest ties of a bundle: as many over ones, or below 0 as many under ones. */
+        int tiesIn(Net net, int place) {
+            if (place < 0 || place >= size) {
+                return 0;
+            }
+            int round = net.rounds[folk[place]];
             int count = counts[place];
             return round > 0 && 2 * count > round ? count - round : count;
         }
 
-        int ties(Net net) {
-            int all = 0;
-            for (int i = 0; i < size; i++) {
-                all += Math.abs(tiesIn(net, i));
-            }
-            return all;
-        }
-
         void writeForm(Net net, Row row) {
             row.clear();
-            Arrays.fill(written, false);
+            for (int i = 0; i < size; i++) {
+                written[i] = false;
+            }
             for (int n = 0; n < size; n++) {
                 int place = leastInFront(net);
                 if (place != NONE) {
@@ -1280,7 +1301,7 @@ public final class YearKnot {
                     if (free && (least == NONE || folk[i] < folk[least])) {
                         least = i;
                     }
-                    stopped |= net.stopsOf(folk[i]);
+                    stopped |= net.stops[folk[i]];
                 }
             }
             return least;
@@ -1413,38 +1434,27 @@ public final class YearKnot {
                     answers[1] = i;
                 }
             }
-            layPulled(net);
+            pile.layForm(net, row, pulled);
             answers[2] = pulled.size;
         }
 
         private boolean follow(Net net, int told) {
             if (told == Row.PULL) {
-                return followPull(net);
+                pile.layForm(net, row, pulled);
+                boolean turns = !pulled.isLike(row);
+                row.copyFrom(pulled);
+                return turns;
             }
             if (told >= Row.CUT) {
                 int before = row.size;
                 row.takeOut(told - Row.CUT);
                 return row.size < before;
             }
-            if (!net.canTie(row, told)) {
-                return false;
+            boolean ties = net.canTie(row, told);
+            if (ties) {
+                row.add(told);
             }
-            row.add(told);
-            return true;
-        }
-
-        private boolean followPull(Net net) {
-            layPulled(net);
-            if (pulled.isLike(row)) {
-                return false;
-            }
-            row.copyFrom(pulled);
-            return true;
-        }
-
-        private void layPulled(Net net) {
-            pile.lay(net, row);
-            pile.writeForm(net, pulled);
+            return ties;
         }
 
         void drawYears(Net net, int seed, int years) {
@@ -1452,7 +1462,7 @@ public final class YearKnot {
             Arrays.fill(answers, 0);
             for (int y = 0; y < years; y++) {
                 drawYear(net);
-                layPulled(net);
+                pile.layForm(net, row, pulled);
                 answers[0] += pulled.size == 0 ? 1 : 0;
                 answers[1] += pulled.size;
                 answers[2] = Math.max(answers[2], pulled.size);
@@ -1475,10 +1485,15 @@ public final class YearKnot {
 
     /** The search for the fewest cuts. */
     private static final class Cutter {
+        private static final int NEVER = 1000;
+
         // What is kept of the places from each one on.
         private final Pile[] kept;
         // What each FOLK's ties would count for if no more of them were cut.
         private final int[] totals;
+        // How many ties of each sort have yet to be looked at.
+        private final int[] unseen;
+        private final int[] needs;
         private int found;
 
         Cutter() {
@@ -1487,6 +1502,8 @@ public final class YearKnot {
                 kept[i] = new Pile(MOST_SEARCHED);
             }
             totals = new int[MOST_FOLK];
+            unseen = new int[2 * MOST_FOLK];
+            needs = new int[MOST_FOLK];
         }
 
         int fewest(Net net, Row row) {
@@ -1494,8 +1511,10 @@ public final class YearKnot {
                 return NONE;
             }
             Arrays.fill(totals, 0);
+            Arrays.fill(unseen, 0);
             for (int i = 0; i < row.size; i++) {
                 countIn(row.ties[i], 1);
+                comeBy(row.ties[i], 1);
             }
             kept[row.size].clear();
             found = 0;
@@ -1509,24 +1528,31 @@ public final class YearKnot {
 
         // From the last place to the first, and kept before cut: so the least set is met first.
         private boolean search(Net net, Row row, int left, int most, int set) {
-            if (left < 0 || left > MOST_SEARCHED || missing(net) > most || kept[left].ties(net) > left) {
+            if (left < 0 || left > MOST_SEARCHED || missing(net) > most || isPast(net, kept[left])) {
                 return false;
             }
             if (left == 0) {
                 found = set;
                 return true;
             }
-            int place = left - 1;
-            int one = row.tieAt(place);
-            kept[place].copyFrom(kept[left]);
-            kept[place].pushTie(net, one);
-            if (search(net, row, place, most, set)) {
-                return true;
-            }
-            kept[place].copyFrom(kept[left]);
-            countIn(one, -1);
+            int one = row.tieAt(left - 1);
+            comeBy(one, -1);
+            boolean good = searchKept(net, row, left - 1, most, set) || searchCut(net, row, left - 1, most, set);
+            comeBy(one, 1);
+            return good;
+        }
+
+        private boolean searchKept(Net net, Row row, int place, int most, int set) {
+            kept[place].copyFrom(kept[place + 1]);
+            kept[place].pushTie(net, row.tieAt(place));
+            return search(net, row, place, most, set);
+        }
+
+        private boolean searchCut(Net net, Row row, int place, int most, int set) {
+            kept[place].copyFrom(kept[place + 1]);
+            countIn(row.tieAt(place), -1);
             boolean good = search(net, row, place, most - 1, set | 1 << place);
-            countIn(one, 1);
+            countIn(row.tieAt(place), 1);
             return good;
         }
 
@@ -1537,15 +1563,39 @@ public final class YearKnot {
             }
         }
 
+        private void comeBy(int one, int times) {
+            if (one >= 0 && one < unseen.length) {
+                unseen[one] += times;
+            }
+        }
+
         // No fewer cuts than these bring each FOLK's total to 0, and that it must come to.
         private int missing(Net net) {
             int all = 0;
             for (int f = 0; f < net.folks; f++) {
-                int round = net.roundOf(f);
                 int total = net.rounded(f, totals[f]);
-                all += round > 0 ? Math.min(total, round - total) : Math.abs(total);
+                if (total != 0) {
+                    int round = net.rounds[f];
+                    int byOver = total > 0 && unseen[2 * f] >= total ? total : NEVER;
+                    int under = round > 0 ? round - total : -total;
+                    int byUnder = under > 0 && unseen[2 * f + 1] >= under ? under : NEVER;
+                    all += Math.min(byOver, byUnder);
+                }
             }
             return all;
+        }
+
+        // What is kept is undone by ties of the same FOLK or not at all.
+        private boolean isPast(Net net, Pile pile) {
+            Arrays.fill(needs, 0);
+            for (int i = 0; i < pile.size; i++) {
+                int f = pile.folk[i];
+                needs[f] += Math.abs(pile.tiesIn(net, i));
+                if (needs[f] > unseen[2 * f] + unseen[2 * f + 1]) {
+                    return true;
+                }
+            }
+            return false;
         }
     }
 
@@ -1594,8 +1644,9 @@ public final class YearKnot {
             Row line = shelf.line;
             for (int i = 0; i < ties; i++) {
                 before[i] = 0;
+                int stops = net.stops[Row.folkOf(line.ties[i])];
                 for (int j = 0; j < i; j++) {
-                    if (net.stops(Row.folkOf(line.tieAt(i)), Row.folkOf(line.tieAt(j)))) {
+                    if ((stops >> Row.folkOf(line.ties[j]) & 1) != 0) {
                         before[i] |= 1 << j;
                     }
                 }
@@ -1767,8 +1818,9 @@ public final class YearKnot {
         }
 
         private void tighten(Net net, Pile pile) {
-            for (int n = 0; n < MOST_TIES && tightenOnce(net, pile); n++) {
-                turned.clear();
+            boolean goes = true;
+            for (int n = 0; n < MOST_TIES && goes; n++) {
+                goes = tightenOnce(net, pile);
             }
         }
 
@@ -1782,7 +1834,7 @@ public final class YearKnot {
                         return true;
                     }
                 }
-                stopped |= net.stopsOf(pile.folk[i]);
+                stopped |= net.stops[pile.folk[i]];
             }
             return false;
         }
@@ -1791,12 +1843,12 @@ public final class YearKnot {
             turned.clear();
             for (int i = 0; i < pile.size; i++) {
                 if ((toTheEnd >> i & 1) == 0) {
-                    turned.pushBundle(net, pile, i);
+                    turned.push(net, pile.folk[i], pile.counts[i]);
                 }
             }
             for (int i = 0; i < pile.size; i++) {
                 if ((toTheEnd >> i & 1) != 0) {
-                    turned.pushBundle(net, pile, i);
+                    turned.push(net, pile.folk[i], pile.counts[i]);
                 }
             }
         }
@@ -1824,7 +1876,7 @@ public final class YearKnot {
             to.clear();
             for (int i = 0; i < from.size; i++) {
                 if ((party >> from.folk[i] & 1) != 0) {
-                    to.pushBundle(net, from, i);
+                    to.push(net, from.folk[i], from.counts[i]);
                 }
             }
         }
@@ -1847,7 +1899,7 @@ public final class YearKnot {
             for (int i = 0; i < pile.size; i++) {
                 boolean bound = i == first || i > first && (behind >> pile.folk[i] & 1) != 0;
                 if (bound) {
-                    behind |= net.stopsOf(pile.folk[i]);
+                    behind |= net.stops[pile.folk[i]];
                 } else {
                     free |= 1 << i;
                 }
