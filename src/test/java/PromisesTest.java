@@ -159,6 +159,9 @@ public final class PromisesTest {
         netFault("rope 1;rope;", 3, 7);
         netFault("rope -1;", 1, 5);
         netFault("takes 1;takes;", 3, 8);
+        netFault(";".repeat(1000), 1, 0);
+        netFault("takes " + "(".repeat(994), 5, 11);
+        netFault("takes 1" + "*1".repeat(496) + "+", 1, 1000);
         String six = "folk a war;folk b war;folk c war;folk d war;folk e war;folk f war;";
         netFault(six + "folk", 5, 66);
         netFault(six + "folk a", 5, 66);
@@ -293,6 +296,12 @@ public final class PromisesTest {
             x.tie(1, false);
             due("7 takes " + law[0], x.count(4) - before, law[1]);
         }
+        YearKnot full = told("takes " + "1+".repeat(496) + "1;", "");
+        due("7 a full tape", Check.net(full, "folk a bend;rope 999;takes " + "1+".repeat(50) + "1-13;"), 0);
+        full.tie(0, true);
+        due("7 a long law", full.count(4), 38);
+        YearKnot deep = told("folk a bend;takes 1 and 0<1+2*(1 and 0<1+2*(1 and 0<1+2*(1 and 0<1+2*3)));", "a");
+        due("7 a deep law", deep.count(4), 1);
         YearKnot x = told("folk a bend;folk b slip;folk c hitch;folk d war;", "abcd");
         due("7 without takes", x.count(4), 10);
         YearKnot y = told("folk a bend;takes place*10;", "aaaa");
@@ -633,6 +642,15 @@ public final class PromisesTest {
         due("27 by the form", two("abababababa" + "AbAbAbAbAbA", "").ring(), 1);
         due("27 parties apart", two("abddcbC", "badbd").ring(), 0);
         due("27 parties", two("adbd", "dbad").ring(), 1);
+        String pairs = "folk a bend;folk b slip;folk c hitch;folk d war;kin a b;kin c d;";
+        YearKnot x = told(pairs, "abcd");
+        Check.other(x, "a over;b over;d over;c over;");
+        due("27 each party turns by itself", x.ring(), 1);
+        YearKnot y = told(pairs, "aabcdcdd");
+        Check.other(y, "d over;b over;d over;a over;c over;d over;a over;c over;");
+        due("27 two parties turned", y.ring(), 1);
+        Check.other(y, "d over;b over;d over;a over;c over;c over;a over;d over;");
+        due("27 two parties, one another one", y.ring(), 0);
     }
 
     private static void rests() {
