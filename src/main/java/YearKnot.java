@@ -515,11 +515,13 @@ public final class YearKnot {
 
         // The names of the facts are no words of the language's own: FOLK may bear them.
         boolean isName() {
-            return token() == NAME || isFact();
+            int one = token();
+            return one == NAME || one >= PLACE && one <= BELOW;
         }
 
         boolean isFact() {
-            return token() >= PLACE && token() <= BELOW;
+            int one = token();
+            return one >= PLACE && one <= BELOW;
         }
 
         private void lay(int token, int start, long value) {
@@ -1450,9 +1452,13 @@ public final class YearKnot {
                 row.takeOut(told - Row.CUT);
                 return row.size < before;
             }
-            boolean ties = net.canTie(row, told);
+            return followTie(net, told);
+        }
+
+        private boolean followTie(Net net, int one) {
+            boolean ties = net.canTie(row, one);
             if (ties) {
-                row.add(told);
+                row.add(one);
             }
             return ties;
         }
@@ -1473,7 +1479,7 @@ public final class YearKnot {
             row.clear();
             for (int n = 0; n < TIES_DRAWN && net.folks > 0; n++) {
                 int folk = drawBelow(net.folks);
-                follow(net, 2 * folk + drawBelow(2));
+                followTie(net, 2 * folk + drawBelow(2));
             }
         }
 
