@@ -432,7 +432,7 @@ public final class PromisesTest {
 
     private static void fault() {
         due("16 none tied", four("").fault(), 0);
-                due("16 all of it", four("aA").fault(), 1);
+        due("16 all of it", four("aA").fault(), 1);
         due("16 it comes out: each alone is at fault", four("aAdD").fault(), 9);
         due("16 either", four("abAb").fault(), 3);
         due("16 no one alone", four("cac").fault(), 0);
