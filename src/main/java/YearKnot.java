@@ -173,12 +173,11 @@ public final class YearKnot {
     }
 
     public int fault() {
-        int all = (1 << net.folks) - 1;
         int tied = now.line.folkBits();
         int bits = 0;
         for (int f = 0; f < net.folks; f++) {
             boolean has = (tied >> f & 1) != 0;
-            if (has && comesOutOf(all & ~(1 << f))) {
+            if (has && comesOutOf(~(1 << f))) {
                 bits |= 1 << f;
             }
         }

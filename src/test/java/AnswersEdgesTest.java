@@ -27,6 +27,7 @@ public final class AnswersEdgesTest {
         cutsFewest();
         cutsLeastSet();
         cutsOf14();
+        oneAnswerAfterAnother();
         aheadOfAnother();
         aheadEight();
         ordersByChangesAlone();
@@ -259,10 +260,19 @@ public final class AnswersEdgesTest {
         due("one", four("d").cuts(), places(0));
         due("the one between", four("abA").cuts(), places(1));
         due("all", four("abcd").cuts(), places(0, 1, 2, 3));
+        due("all, over and under", four("dAB").cuts(), places(0, 1, 2));
+        due("two far behind, not three", four("CCCcB").cuts(), places(3, 4));
+        due("all of six", tied(Told.SIX_FREE, "abcdef").cuts(), 63);
+        due("two far behind, not four in front", four("aabAAb").cuts(), places(2, 5));
         due("two of one round a knot", four("abcbA").cuts(), places(2));
         due("one for three", four("cccc").cuts(), places(0));
         due("two for a pair", four("dddddd").cuts(), places(0, 1));
         due("under ones of a war", four("dddD").cuts(), places(0, 1));
+        due("one that is far behind, not two in front", four("cccC").cuts(), places(3));
+        due("the same under", four("CCCc").cuts(), places(3));
+        due("of a war, too", four("dddddDDD").cuts(), places(0, 1));
+        due("one of a war, not three", four("dddddDD").cuts(), places(5));
+        due("one between, not all around it", four("cabAcc").cuts(), places(2));
         due("by place, not by place as moved up", four("aabbA").cuts(), places(0));
     }
 
@@ -286,6 +296,37 @@ public final class AnswersEdgesTest {
         due("the 14th", four("aA".repeat(6) + "Ab").cuts(), places(1, 13));
         YearKnot x = tied(FREE, "a".repeat(24));
         due("24", x.cuts(), -1);
+    }
+
+    // No answer depends on what was asked before
+    private static void oneAnswerAfterAnother() {
+        String[] rows = {"abcabcabcabcab", "a", "dcbadcbadcba", "ab", "ccCbBaAdDd", "", "adadadadadadad", "bab", "cbcab",
+            "dddaaaa", "AbAbAb", "abcd", "dc"};
+        YearKnot x = four("");
+        for (int n = 0; n < 2; n++) {
+            for (String row : rows) {
+                x.mark(0, false);
+                while (x.cut(0) >= 0) {
+                    due("all are cut", x.count(9), 0);
+                }
+                Check.ties(x, row);
+                YearKnot fresh = four(row);
+                if (n > 0 && row.length() > 2) {
+                    due("AHEAD", x.ahead(2, 0) + " " + fresh.ahead(2, 0), "true true");
+                }
+                due("CUTS of " + row, x.cuts(), fresh.cuts());
+                due("ORDERS of " + row, x.orders(), fresh.orders());
+                due("ASK of " + row, x.ask(), fresh.ask());
+                for (String other : rows) {
+                    Check.other(x, Told.lines(other));
+                    Check.other(fresh, Told.lines(other));
+                    due("RING of " + row + " and " + other, x.ring(), fresh.ring());
+                    due("PASS of " + row + " and " + other, x.pass(), fresh.pass());
+                }
+                due("YET of " + row, Check.yet(x), Check.yet(fresh));
+                due("LOOSE of " + row, x.loose(0) + " " + x.loose(1), fresh.loose(0) + " " + fresh.loose(1));
+            }
+        }
     }
 
     // AHEAD: "that the tie at a place was tied ahead of the one at another place"; ahead: "false: others, the same"
@@ -421,6 +462,7 @@ public final class AnswersEdgesTest {
     private static void askOf14() {
         due("14", four("a".repeat(13) + "d").ask(), pair(6, 13));
         due("15", four("a".repeat(14) + "d").ask(), -1);
+        due("14 of six", tied(Told.SIX_FREE, "abcdefabcdefab").ask(), pair(0, 1));
         due("14 by turns", tied(Told.SIX_FREE, "a" + "b".repeat(13)).ask(), pair(0, 7));
         due("24", tied(FREE, "ab".repeat(12)).ask(), -1);
     }
@@ -467,7 +509,7 @@ public final class AnswersEdgesTest {
     private static void ringsAreTurned() {
         String[][] one = {{"", ""}, {"aA", ""}, {"a", "a"}, {"ab", "ba"}, {"aab", "aba"}, {"aab", "baa"}, {"abA", "b"},
             {"bab", "a"}, {"cbc", "Cb"}, {"abcb", "cbab"}, {"aabab", "abaab"}, {"aabab", "babaa"}, {"b", "B"},
-            {"dad", "add"}, {"abcBA", "c"}, {"acbCA", "cbC"}, {"acbCA", "b"}, {"abadd", "ddaab"}};
+            {"dad", "add"}, {"abcBA", "c"}, {"acb", "abc"}, {"abcab", "babca"}, {"acbacb", "cabcab"}, {"acbCA", "cbC"}, {"acbCA", "b"}, {"abadd", "ddaab"}};
         for (String[] r : one) {
             due("ring of " + r[0] + " and " + r[1], ring(Told.FOUR, r[0], r[1]), 1);
             due("ring of " + r[1] + " and " + r[0], ring(Told.FOUR, r[1], r[0]), 1);
@@ -480,6 +522,16 @@ public final class AnswersEdgesTest {
             due("ring of " + r[1] + " and " + r[0], ring(Told.FOUR, r[1], r[0]), 0);
         }
         due("parties apart are turned apart", ring(PAIRS, "abcd", "badc"), 1);
+        due("the second party grows less", ring(PAIRS, "abcdc", "abccd"), 1);
+        String across = "folk a bend;folk b bend;folk c bend;kin a c;";
+        due("those of kin pass one who is none", ring(across, "abcac", "cacab"), 1);
+        due("but not one another", ring(across, "abcac", "aabcc"), 0);
+        String star = "folk a bend;folk b bend;folk c bend;kin a b;kin a c;";
+        due("each two are one, but not the three", ring(star, "abac", "aabc"), 0);
+        due("the three are turned", ring(star, "abac", "acab"), 1);
+        due("as many, each two are one, but not the three", ring(star, "abaac", "aabac"), 0);
+        due("those between pass one another", ring(star, "abcac", "bacac"), 1);
+        due("but not all the way", ring(star, "aababc", "abaacb"), 0);
         due("parties together", ring(PAIRS, "abcd", "abdc"), 1);
         due("one party is another one", ring(PAIRS, "aabcd", "abdc"), 0);
         due("as to their order", ring(PAIRS, "aababcd", "dcaaabb"), 0);

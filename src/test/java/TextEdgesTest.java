@@ -18,6 +18,7 @@ public final class TextEdgesTest {
     public static void main(String[] args) {
         atFirst();
         tapeHolds1000();
+        tapeFullOfTokens();
         leftOutTakesNoRoom();
         signsOfTheTape();
         highestByteFirst();
@@ -55,6 +56,8 @@ public final class TextEdgesTest {
         theLeastKind();
         aFaultKeepsAll();
         aNetBeginsAnew();
+        netsOneAfterAnother();
+        netsBehindFaults();
         yearAndOtherReplace();
         folkAndWhat();
         CHECK.end();
@@ -140,6 +143,19 @@ public final class TextEdgesTest {
         fillWithBlanks(x, 977);
         due("24 behind 977", x.feed(EIGHT_BLANKS, EIGHT_BLANKS, Check.eight(" line 8;", 0)), 1000);
         due("the last is left out", x.net(), Told.fault(1, 1000));
+    }
+
+    // "The TAPE has at most 1,000 signs": each of them may be a token
+    private static void tapeFullOfTokens() {
+        wrong(";".repeat(1000), 1, 0);
+        wrong("takes" + "(".repeat(995), 5, 10);
+        good("takes 1" + "*1".repeat(496) + ";");
+        wrong("takes 1" + "*1".repeat(496) + "*", 1, 1000);
+        wrongYear("(".repeat(1000), 1, 0);
+        wrongYear("a over;" + "pull;".repeat(39) + ";".repeat(798), 1, 202);
+        wrongOther("1 ".repeat(500), 1, 0);
+        YearKnot x = Told.net(CHECK, "takes 2" + "+0+0-0*9".repeat(120) + ";folk a bend;");
+        due("a law of 960 signs", x.tie(0, true) + " " + x.count(4), "1 2");
     }
 
     // "others than 10 and 32 .. 126 .. are left out": they take no room on the TAPE
@@ -321,7 +337,10 @@ public final class TextEdgesTest {
     private static void namesOfFolk() {
         for (String word : RESERVED) {
             wrong("folk " + word + " bend;", 1, 5);
-            good("folk x" + word + " bend;folk " + word + "x bend;");
+            String all = word.substring(1);
+            good("folk x" + word + " bend;folk " + word + "x bend;folk x" + all + " bend;folk " + all + " bend;");
+            String most = word.substring(0, word.length() - 1);
+            good("folk " + most + "q bend;folk " + most + " bend;");
             wrong(A_BEND + "kin a " + word + ";", 1, 18);
             wrong(A_BEND + "kin " + word + " a;", 1, 16);
         }
@@ -334,7 +353,8 @@ public final class TextEdgesTest {
         wrong("folk a bend;folk a bend;", 3, 17);
         wrong("folk a bend;folk b slip;folk a war;", 3, 29);
         wrong("folk a bend;folk a", 3, 17);
-        good("folk a bend;folk aa bend;folk ab bend;");
+        good("folk a bend;folk aa bend;folk ab bend;folk ba bend;folk b bend;folk bb bend;");
+        good("folk bbb bend;folk aaa bend;folk z bend;folk zz bend;folk aaaaaaaa bend;folk bbbbbbbb bend;");
         wrong("folk;", 1, 4);
         wrong("folk 1 bend;", 1, 5);
     }
@@ -447,6 +467,7 @@ public final class TextEdgesTest {
         wrong("takes 0;takes 0;", 3, 8);
         wrong("takes 1+sort;line 5;takes", 3, 20);
         good("takes 1;line 1;rope 1;");
+        good("rope 1;line 1;takes 1;");
     }
 
     // "any number of ..": in any order, and what stands behind counts for E, too
@@ -519,6 +540,9 @@ public final class TextEdgesTest {
         YearKnot x = new YearKnot();
         due("no FOLK at all", Check.year(x, "a over;") + " " + Check.other(x, "a over;"), "2 2");
         due("cut and pull without FOLK", Check.year(x, "cut 0;pull;"), 0);
+        YearKnot six = Told.net(CHECK, Told.SIX_FREE);
+        due("no FOLK beside six", Check.year(six, "f over;g over;") + " " + Check.other(six, "g under;"), "114 2");
+        wrong(Told.SIX_FREE + "kin g a;", 2, 76);
     }
 
     // "40 lines at most"; "5 one too many: .. the first word of a 41st line of a YEAR"
@@ -572,6 +596,13 @@ public final class TextEdgesTest {
         wrong("takes (1));", 1, 9);
         wrong("takes not;", 1, 9);
         wrong("takes ann;", 1, 6);
+        wrong("takes plac;", 1, 6);
+        wrong("takes qlace;", 1, 6);
+        wrong("takes kin;", 1, 6);
+        wrong("takes sor;", 1, 6);
+        wrong("takes belo;", 1, 6);
+        wrong("takes 1 an 2;", 1, 8);
+        wrong("takes 1 xr 2;", 1, 8);
         wrong("takes line;", 1, 6);
         wrong(A_BEND + "takes a;", 1, 18);
     }
@@ -709,6 +740,44 @@ public final class TextEdgesTest {
         due("without takes: 1 + sort", x.tie(0, true) + " " + x.count(4), "1 4");
         due("no kin", x.folk(0, 1), 0);
         due("an empty NET, too", x.net() + " " + Told.counts(x), "0 0 0 24 200 0 0 0 0 0 0 0");
+    }
+
+    private static void dueAnew(YearKnot x, String net, String counts, int kin, int used) {
+        due("net " + net, Check.net(x, net), 0);
+        due("counts of " + net, Told.counts(x), counts);
+        due("kin in " + net, x.folk(0, 1), kin);
+        due("USED in " + net, x.tie(0, true) + " " + x.count(4), "1 " + used);
+    }
+
+    // "Without a FAULT a NET is the NET from then on": it, and nothing of any one before it
+    private static void netsOneAfterAnother() {
+        YearKnot x = new YearKnot();
+        for (int n = 0; n < 3; n++) {
+            dueAnew(x, "folk a bend;folk b war;kin a b;takes 7;line 3;rope 50;", "2 1 3 50 0 0 0 0 0 0 0", 2, 7);
+            dueAnew(x, "folk c war;", "1 0 24 200 0 0 0 0 0 0 0", 0, 4);
+            due("NAMES", Check.year(x, "c over;") + " " + Check.year(x, "a over;") + " " + Check.year(x, "b over;"), "0 2 2");
+            dueAnew(x, "takes 5+1;folk b slip;", "1 0 24 200 0 0 0 0 0 0 0", 0, 6);
+            dueAnew(x, "folk c hitch;folk b bend;rope 30;", "2 0 24 30 0 0 0 0 0 0 0", 0, 3);
+            due("NAMES", Check.year(x, "c over;b over;") + " " + Check.year(x, "a over;"), "0 2");
+            dueAnew(x, "line 4;folk a slip;folk b slip;folk c slip;kin a c;", "3 1 4 200 0 0 0 0 0 0 0", 4, 2);
+            dueAnew(x, "takes kins+1 and 0;folk a bend;folk b bend;kin b a;", "2 1 24 200 0 0 0 0 0 0 0", 2, 0);
+        }
+    }
+
+    // "0, or its FAULT (all stays then)": the next one is read as if there had been none
+    private static void netsBehindFaults() {
+        YearKnot x = new YearKnot();
+        String[] faults = {"takes ((((", "takes not not not not", "takes 1+2*3<4 and", "takes 1<2;takes 1", "takes not", "takes 7*not 1*not", "line 3;rope 3;A",
+            "folk a bend;folk b bend;kin a b;folk c", "takes (1 or (2 and", "rope 7;line 7;line", "takes (((((("};
+        for (String fault : faults) {
+            for (int n = 0; n < 2; n++) {
+                due("a FAULT", Check.net(x, fault) > 0, true);
+                dueAnew(x, "folk a bend;folk b bend;kin a b;line 9;rope 9;takes ((((1))))+4+not not not not 1;",
+                        "2 1 9 9 0 0 0 0 0 0 0", 2, 6);
+                due("a FAULT", Check.net(x, fault) > 0, true);
+                dueAnew(x, "folk a hitch;", "1 0 24 200 0 0 0 0 0 0 0", 0, 3);
+            }
+        }
     }
 
     // "YEAR, OTHER are these": each is the one told last, and touches nothing else

@@ -43,6 +43,7 @@ public final class TyingEdgesTest {
         aheadGoes();
         aheadStays();
         marksHold();
+        eachMarkItsAhead();
         marksFrom0To3();
         noUndoBehindAMark();
         nothingOnAMark();
@@ -160,6 +161,12 @@ public final class TyingEdgesTest {
         due("not not", usedBy("not not 5"), 1);
         due("brackets", usedBy("(2+3)*(4-1)"), 15);
         due("not of brackets", usedBy("not(1<0)*6"), 6);
+        due("and in brackets", usedBy("(1 and 0)+5"), 5);
+        due("or in brackets", usedBy("(0 or 1)*3+2"), 5);
+        due("and, or in brackets", usedBy("((1 and 0)or 0)+(1 and(0 or 1))*7"), 7);
+        due("tests in brackets", usedBy("(1<2)*4+(2=3)*9+(3<(1 or 0))"), 4);
+        due("sums in brackets", usedBy("9-(3-2)-(1+1)"), 6);
+        due("not of sums in brackets", usedBy("not(2-2)*9+not(2-1)*50"), 9);
     }
 
     // "Of not, and, or, < and = comes 1 or 0; what is not 0 is so"
@@ -568,6 +575,19 @@ public final class TyingEdgesTest {
         x.mark(2, false);
         x.cut(0);
         due("laid anew", x.mark(2, true) + " " + Check.line(x) + " " + x.count(9), "true a 0");
+    }
+
+    // "MARKS .. hold .. what is AHEAD": each its own
+    private static void eachMarkItsAhead() {
+        YearKnot x = four("aad");
+        x.ahead(2, 1);
+        due("d ahead of the second a", x.mark(0, false) + " " + x.orders(), "true 2");
+        x.cut(2);
+        x.tie(3, true);
+        x.ahead(1, 2);
+        due("d behind it", x.mark(1, false) + " " + x.orders() + " " + x.ask(), "true 1 -1");
+        due("back to the first", x.mark(0, true) + " " + x.orders() + " " + x.ask(), "true 2 2");
+        due("back to the second", x.mark(1, true) + " " + x.orders() + " " + x.ask(), "true 1 -1");
     }
 
     // "MARKS 0 to 3"; mark: "false: none such"
