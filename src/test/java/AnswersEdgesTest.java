@@ -46,6 +46,7 @@ public final class AnswersEdgesTest {
         restsLeastFirst();
         restsOfOthers();
         centuriesByDraws();
+        centuriesArePulled();
         centuriesOfNoFolk();
         centuriesHeldToLineAndRope();
         centuriesAtTheEdges();
@@ -669,6 +670,35 @@ public final class AnswersEdgesTest {
             for (int seed : seeds) {
                 for (int years = 1; years <= 40; years += 13) {
                     due(folks + " FOLK by " + seed + " in " + years, centuries(x, seed, years), drawn(seed, years, folks, 8));
+                }
+            }
+        }
+    }
+
+    // "then it is PULLED: years that COME OUT; ties that are left, together; the most that are left of one"
+    private static void centuriesArePulled() {
+        String[] nets = {Told.FOUR, PAIRS, Told.FOUR + "line 6;rope 15;", "folk a slip;", "folk a hitch;folk b war;kin a b;",
+            "folk a war;folk b war;takes (5-place)*below;rope 9;"};
+        for (String net : nets) {
+            for (int seed = 0; seed < 10; seed++) {
+                YearKnot byHand = Told.net(CHECK, net);
+                g = seed * 1111;
+                int outs = 0;
+                int all = 0;
+                int most = 0;
+                for (int years = 1; years <= 5; years++) {
+                    Check.net(byHand, net);
+                    for (int n = 0; n < 8; n++) {
+                        int folk = draw(byHand.count(0));
+                        byHand.tie(folk, draw(2) == 0);
+                    }
+                    byHand.pull();
+                    outs += byHand.out() ? 1 : 0;
+                    all += byHand.count(5);
+                    most = Math.max(most, byHand.count(5));
+                    YearKnot x = Told.net(CHECK, net);
+                    due(years + " years of " + net + " by " + seed * 1111, centuries(x, seed * 1111, years),
+                            outs + " " + all + " " + most);
                 }
             }
         }
