@@ -114,7 +114,8 @@ public final class AnswersEdgesTest {
             }
         }
         YearKnot x = four("abcdAcBdaD");
-        due("of all its ties, though they are held apart", x.sum(0) + " " + x.sum(1) + " " + x.sum(2) + " " + x.sum(3), "1 0 2 1");
+        due("of all its ties, though they are held apart", x.sum(0) + " " + x.sum(1) + " " + x.sum(2) + " " + x.sum(3),
+                "1 0 2 1");
         due("24 under", tied("folk a bend;", "A".repeat(24)).sum(0), -24);
         due("without ties", four("b").sum(0), 0);
     }
@@ -184,7 +185,8 @@ public final class AnswersEdgesTest {
 
     // LOOSE: "the first place from which so many do"
     private static void looseFirst() {
-        String[][] rows = {{"aAbcC", "2 0"}, {"baAcC", "4 1"}, {"baAbcC", "6 0"}, {"aAabB", "4 1"}, {"cbbabbc", "2 1"}, {"baAcbb", "2 1"},
+        String[][] rows = {{"aAbcC", "2 0"}, {"baAcC", "4 1"}, {"baAbcC", "6 0"}, {"aAabB", "4 1"}, {"cbbabbc", "2 1"},
+            {"baAcbb", "2 1"},
             {"abbAbcbbcb", "4 0"}};
         for (String[] r : rows) {
             YearKnot x = four(r[0]);
@@ -301,7 +303,8 @@ public final class AnswersEdgesTest {
 
     // No answer depends on what was asked before
     private static void oneAnswerAfterAnother() {
-        String[] rows = {"abcabcabcabcab", "a", "dcbadcbadcba", "ab", "ccCbBaAdDd", "", "adadadadadadad", "bab", "cbcab",
+        String[] rows = {"abcabcabcabcab", "a", "dcbadcbadcba", "ab", "ccCbBaAdDd", "", "adadadadadadad", "bab",
+            "cbcab",
             "dddaaaa", "AbAbAb", "abcd", "dc"};
         YearKnot x = four("");
         for (int n = 0; n < 2; n++) {
@@ -362,7 +365,8 @@ public final class AnswersEdgesTest {
 
     // ORDERS: "by changes of places alone (not of ties of one FOLK)"
     private static void ordersByChangesAlone() {
-        String[] rows = {"", "a", "aaaa", "aA", "ab", "abab", "ad", "aad", "aadd", "acd", "abcd", "dcba", "bbcA", "cadb"};
+        String[] rows = {"", "a", "aaaa", "aA", "ab", "abab", "ad", "aad", "aadd", "acd", "abcd", "dcba", "bbcA",
+            "cadb"};
         int[] orders = {1, 1, 1, 1, 1, 1, 2, 3, 6, 6, 4, 4, 2, 8};
         for (int i = 0; i < rows.length; i++) {
             due("ORDERS of " + rows[i], four(rows[i]).orders(), orders[i]);
@@ -510,12 +514,14 @@ public final class AnswersEdgesTest {
     private static void ringsAreTurned() {
         String[][] one = {{"", ""}, {"aA", ""}, {"a", "a"}, {"ab", "ba"}, {"aab", "aba"}, {"aab", "baa"}, {"abA", "b"},
             {"bab", "a"}, {"cbc", "Cb"}, {"abcb", "cbab"}, {"aabab", "abaab"}, {"aabab", "babaa"}, {"b", "B"},
-            {"dad", "add"}, {"abcBA", "c"}, {"acb", "abc"}, {"abcab", "babca"}, {"acbacb", "cabcab"}, {"acbCA", "cbC"}, {"acbCA", "b"}, {"abadd", "ddaab"}};
+            {"dad", "add"}, {"abcBA", "c"}, {"acb", "abc"}, {"abcab", "babca"}, {"acbacb", "cabcab"}, {"acbCA", "cbC"},
+            {"acbCA", "b"}, {"abadd", "ddaab"}};
         for (String[] r : one) {
             due("ring of " + r[0] + " and " + r[1], ring(Told.FOUR, r[0], r[1]), 1);
             due("ring of " + r[1] + " and " + r[0], ring(Told.FOUR, r[1], r[0]), 1);
         }
-        String[][] two = {{"", "a"}, {"a", "A"}, {"a", "aa"}, {"a", "c"}, {"ab", "aab"}, {"ab", "Ab"}, {"aabab", "aaabb"},
+        String[][] two = {{"", "a"}, {"a", "A"}, {"a", "aa"}, {"a", "c"}, {"ab", "aab"}, {"ab", "Ab"},
+            {"aabab", "aaabb"},
             {"abaab", "abab"}, {"c", "C"}, {"cb", "Cb"}, {"ad", "aD"}, {"abab", "ab"}, {"aabAb", "ab"},
             {"abcb", "acbb"}};
         for (String[] r : two) {
@@ -669,7 +675,8 @@ public final class AnswersEdgesTest {
             int[] seeds = {0, 1, 2, 77, 4711, 9998, 9999};
             for (int seed : seeds) {
                 for (int years = 1; years <= 40; years += 13) {
-                    due(folks + " FOLK by " + seed + " in " + years, centuries(x, seed, years), drawn(seed, years, folks, 8));
+                    due(folks + " FOLK by " + seed + " in " + years, centuries(x, seed, years), drawn(seed, years,
+                            folks, 8));
                 }
             }
         }
@@ -677,7 +684,8 @@ public final class AnswersEdgesTest {
 
     // "then it is PULLED: years that COME OUT; ties that are left, together; the most that are left of one"
     private static void centuriesArePulled() {
-        String[] nets = {Told.FOUR, PAIRS, Told.FOUR + "line 6;rope 15;", "folk a slip;", "folk a hitch;folk b war;kin a b;",
+        String[] nets = {Told.FOUR, PAIRS, Told.FOUR + "line 6;rope 15;", "folk a slip;",
+            "folk a hitch;folk b war;kin a b;",
             "folk a war;folk b war;takes (5-place)*below;rope 9;"};
         for (String net : nets) {
             for (int seed = 0; seed < 10; seed++) {
@@ -735,7 +743,8 @@ public final class AnswersEdgesTest {
         for (int[] c : good) {
             due("the edges are good", x.centuries(c[0], c[1], c[2]) >= 0, true);
         }
-        int[][] wrong = {{-1, 1, 0}, {10000, 1, 0}, {0, 0, 0}, {0, -1, 0}, {0, 41, 0}, {0, 1, -1}, {0, 1, 3}, {0, 1, -2},
+        int[][] wrong = {{-1, 1, 0}, {10000, 1, 0}, {0, 0, 0}, {0, -1, 0}, {0, 41, 0}, {0, 1, -1}, {0, 1, 3},
+            {0, 1, -2},
             {Integer.MIN_VALUE, 1, 0}, {Integer.MAX_VALUE, 1, 0}, {0, Integer.MIN_VALUE, 0}, {0, Integer.MAX_VALUE, 0},
             {0, 1, Integer.MIN_VALUE}, {0, 1, Integer.MAX_VALUE}};
         for (int[] c : wrong) {

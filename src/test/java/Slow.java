@@ -755,13 +755,18 @@ final class Slow {
 
     /** 1 or 0; -1 as the document says; -9 if it would take too long to find out here. */
     int ring() {
+        return ring(1);
+    }
+
+    /** By rows that are longer by so many ties at most. */
+    int ring(int growth) {
         List<Integer> a = formOf(now.line);
         List<Integer> b = formOf(now.other);
         if (a.size() > 10 || b.size() > 10) {
             return -1;
         }
         int most = 2500;
-        int room = Math.max(a.size(), b.size()) + 1;
+        int room = Math.max(a.size(), b.size()) + growth;
         Set<List<Integer>> seen = new HashSet<>();
         ArrayDeque<List<Integer>> queue = new ArrayDeque<>();
         seen.add(a);

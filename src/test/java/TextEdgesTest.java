@@ -755,7 +755,8 @@ public final class TextEdgesTest {
         for (int n = 0; n < 3; n++) {
             dueAnew(x, "folk a bend;folk b war;kin a b;takes 7;line 3;rope 50;", "2 1 3 50 0 0 0 0 0 0 0", 2, 7);
             dueAnew(x, "folk c war;", "1 0 24 200 0 0 0 0 0 0 0", 0, 4);
-            due("NAMES", Check.year(x, "c over;") + " " + Check.year(x, "a over;") + " " + Check.year(x, "b over;"), "0 2 2");
+            due("NAMES", Check.year(x, "c over;") + " " + Check.year(x, "a over;") + " " + Check.year(x, "b over;"),
+                    "0 2 2");
             dueAnew(x, "takes 5+1;folk b slip;", "1 0 24 200 0 0 0 0 0 0 0", 0, 6);
             dueAnew(x, "folk c hitch;folk b bend;rope 30;", "2 0 24 30 0 0 0 0 0 0 0", 0, 3);
             due("NAMES", Check.year(x, "c over;b over;") + " " + Check.year(x, "a over;"), "0 2");
@@ -767,7 +768,8 @@ public final class TextEdgesTest {
     // "0, or its FAULT (all stays then)": the next one is read as if there had been none
     private static void netsBehindFaults() {
         YearKnot x = new YearKnot();
-        String[] faults = {"takes ((((", "takes not not not not", "takes 1+2*3<4 and", "takes 1<2;takes 1", "takes not", "takes 7*not 1*not", "line 3;rope 3;A",
+        String[] faults = {"takes ((((", "takes not not not not", "takes 1+2*3<4 and", "takes 1<2;takes 1",
+            "takes not", "takes 7*not 1*not", "line 3;rope 3;A",
             "folk a bend;folk b bend;kin a b;folk c", "takes (1 or (2 and", "rope 7;line 7;line", "takes (((((("};
         for (String fault : faults) {
             for (int n = 0; n < 2; n++) {

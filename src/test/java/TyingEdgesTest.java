@@ -268,7 +268,8 @@ public final class TyingEdgesTest {
             for (int over = 0; over <= 12; over++) {
                 for (int under = 0; under <= 12; under++) {
                     YearKnot x = tied(net, "a".repeat(over) + "A".repeat(under));
-                    due(over + " over and " + under + " under of a " + KINDS[kind], x.out(), counts(kind, over - under));
+                    due(over + " over and " + under + " under of a " + KINDS[kind], x.out(), counts(kind,
+                            over - under));
                 }
             }
             due("24 over", tied(net, "a".repeat(24)).out(), kind > 0);
@@ -320,7 +321,8 @@ public final class TyingEdgesTest {
         due("the lesser FOLK, though under", Check.form(tied("folk a bend;folk b bend;", "bA")), "Ab");
         due("each as far ahead as can be", Check.form(four("bdca")), "bacd");
         due("by the first place, then the next", Check.form(tied(Told.SIX_FREE + "kin a f;", "fedcba")), "bcdefa");
-        due("by the first place, then the next", Check.form(tied(Told.SIX_FREE + "kin a b;kin c d;", "dcbafe")), "badcef");
+        due("by the first place, then the next", Check.form(tied(Told.SIX_FREE + "kin a b;kin c d;", "dcbafe")),
+                "badcef");
         YearKnot x = Told.net(CHECK, "folk z bend;folk y bend;");
         x.tie(1, true);
         x.tie(0, true);
@@ -624,7 +626,8 @@ public final class TyingEdgesTest {
     private static void nothingOnAMark() {
         YearKnot x = four("ab");
         x.mark(1, false);
-        due("nothing on the others", x.mark(0, true) + " " + x.mark(2, true) + " " + x.mark(3, true), "false false false");
+        due("nothing on the others", x.mark(0, true) + " " + x.mark(2, true) + " " + x.mark(3, true),
+                "false false false");
         due("all stays", Check.line(x) + " " + x.count(10), "ab 2");
         YearKnot empty = Told.net(CHECK, Told.FOUR);
         empty.mark(3, false);
@@ -678,7 +681,8 @@ public final class TyingEdgesTest {
             Check.result(() -> x.rests(2, 3, 1, asked));
         }
         due("answers", x.out() + " " + x.held() + " " + x.fault() + " " + x.shown(), "false 11 0 1");
-        due("answers", x.cuts() + " " + x.ask() + " " + x.same() + " " + x.pass() + " " + x.ring(), "13 51 false false 0");
+        due("answers", x.cuts() + " " + x.ask() + " " + x.same() + " " + x.pass() + " " + x.ring(),
+                "13 51 false false 0");
         due("all as it was", Told.counts(x) + Check.line(x) + x.orders(), before);
     }
 }
